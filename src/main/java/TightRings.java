@@ -1496,9 +1496,12 @@ public final class TightRings {
             for (int place = 0; place < count; place++) {
                 int a = discAt(place);
                 if (greater != NONE && sizeOrder(a, greater) > 0) break;
+                int own = bitsOf(a);
                 for (int lower = 0; lower < place; lower++) {
-                    part = lesser(part, partBetween(bitsOf(a), bitsOf(discAt(lower))));
-                    part = lesser(part, partBetween(bitsOf(discAt(lower)), bitsOf(a)));
+                    int another = bitsOf(discAt(lower));
+                    if ((own | another) != all) continue;
+                    part = lesser(part, partBetween(own, another));
+                    part = lesser(part, partBetween(another, own));
                 }
                 if (part != 0 && greater == NONE) greater = a;
             }
@@ -1506,7 +1509,7 @@ public final class TightRings {
             return part;
         }
 
-        /** The fewest SPOTS with the first one in own, so that all others, not none, are in another; 0: there are none. */
+        /** The fewest SPOTS of own, the first one among them, that leave some, all in another; 0: there are none such. */
         private int partBetween(int own, int another) {
             int part = all & ~another | 1;
             return (part & ~own) == 0 && part != all ? part : 0;

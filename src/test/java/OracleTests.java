@@ -12,7 +12,7 @@ public final class OracleTests {
     static long calls = 0;
 
     public static void main(String[] args) {
-        int runs = args.length > 0 ? Integer.parseInt(args[0]) : 400;
+        int runs = args.length > 0 ? Integer.parseInt(args[0]) : 600;
         for (int run = 0; run < runs; run++) new Run(run).go();
         System.out.println(calls + " calls, " + wrong + " not as due");
         if (wrong != 0) System.exit(1);
