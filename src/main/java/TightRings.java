@@ -1306,6 +1306,7 @@ public final class TightRings {
         }
 
         private void sink(int from, int gap) {
+            if (gap < 1 || from < gap || from >= count) return;
             int value = packedAt(from);
             int at = from;
             while (at >= gap && packedAt(at - gap) > value) {
@@ -1445,6 +1446,7 @@ public final class TightRings {
         }
 
         private void sink(int from, int gap) {
+            if (gap < 1 || from < gap || from >= count) return;
             int moved = discAt(from);
             int at = from;
             while (at >= gap && sizeOrder(discAt(at - gap), moved) > 0) {
