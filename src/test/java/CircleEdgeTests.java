@@ -102,6 +102,8 @@ public final class CircleEdgeTests {
         dueTight(Edge.of("a5,0;a-3,4;a-3,-4;a3,-4;"), 1, 1, 3);
         dueTight(Edge.of("a0,0;a4,0;a0,3;"), 1, 1, 2);
         dueTight(Edge.of("a2,1;a0,0;a4,0;"), 1, 1, 2);
+        // (0, 0), that is no SPOT, lies opposite the second one
+        dueTight(Edge.of("a-2,6;a10,10;a6,-2;"), 1, 0, 1, 2);
         // a fourth on the rim of three does not count
         dueTight(Edge.of("a5,0;a-3,4;a-3,-4;a3,4;"), 1, 2, 3);
     }

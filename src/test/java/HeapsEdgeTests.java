@@ -808,6 +808,17 @@ public final class HeapsEdgeTests {
         due(x, 40, "is", 0);
         due(x, 1, "gone", 39);
         due(x, 39, "put", 0, 0, 0);
+        // wherever the forty are, and whatever their PACES
+        for (int place = -1; place < 2; place++) {
+            TightRings full = new TightRings();
+            for (int k = 0; k < 40; k++) due(full, k, "put", place, place, k % 4);
+            for (int heap = 0; heap < 4; heap++) due(full, 1, "pace", heap, place, place);
+            due(full, NONE, "put", 0, 0, 0);
+            Edge.dueFault(full, 0, "a0,0;");
+            due(full, 40, "is", 0);
+            due(full, 1, "gone", 3);
+            due(full, 3, "put", 0, 0, 0);
+        }
     }
 
     private static void gone() {

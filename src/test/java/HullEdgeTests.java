@@ -129,6 +129,13 @@ public final class HullEdgeTests {
         long[] want = {0, 0, 0, 0, 1, 1, 1, 1, 2};
         for (int k = 0; k < 9; k++) due(x, want[k], "layer", 1, k);
         due(x, 3, "layer", 1, NONE);
+        // POINT 0 within, then without
+        TightRings first = Edge.of("a3,3;a0,0;a6,0;a6,6;a0,6;");
+        due(first, 1, "layer", 1, 0);
+        due(first, 1, "moved", 0, 7, 3);
+        due(first, 0, "layer", 1, 0);
+        due(first, 1, "back");
+        due(first, 1, "layer", 1, 0);
     }
 
     private static void layersTillNoneIsLeft() {
@@ -187,6 +194,7 @@ public final class HullEdgeTests {
         due(Edge.of("a5,5;a5,5;"), NONE, "couple", 1, 0, 0);
         due(Edge.of("a5,5;a5,6;"), 1, "couple", 1, 0, 0);
         due(Edge.of("a5,5;a5,6;"), NONE, "couple", 1, 1, 0);
+        for (int n = 2; n < 41; n++) dueCouples(n);
         TightRings row = Edge.row(40);
         Edge.dueEach(row, Edge.answers(1, 0, 1), "couple", 1, 0);
         Edge.dueEach(row, Edge.answers(1, 38, 39), "couple", 1, 38);
@@ -197,6 +205,29 @@ public final class HullEdgeTests {
         TightRings far = Edge.of("a-100,-100;b100,100;pa-3,-3;pb3,3;");
         due(far, 0, "tick", 20);
         due(far, 204800, "couple", 3, 0, 0);
+    }
+
+    /** n SPOTS in some disorder, their numbers as their places: each COUPLE but the last comes ahead of the next one. */
+    private static void dueCouples(int n) {
+        int[] ys = new int[n];
+        TightRings x = new TightRings();
+        for (int k = 0; k < n; k++) {
+            ys[k] = k * k * 7 % 31;
+            due(x, k, "put", k, ys[k], 0);
+        }
+        int couples = n * (n - 1) / 2;
+        long ahead = 0;
+        for (int k = Math.max(0, couples - 150); k < couples; k++) {
+            long distance = Edge.ask(x, "couple", 1, k, 0);
+            int first = (int) Edge.ask(x, "couple", 1, k, 1);
+            int second = (int) Edge.ask(x, "couple", 1, k, 2);
+            long place = (distance * 64 + first) * 64 + second;
+            int dy = ys[second] - ys[first];
+            Edge.same("COUPLE " + k + " of " + n, Edge.answers(distance, place > ahead ? 1 : 0, first < second ? 1 : 0),
+                Edge.answers((second - first) * (second - first) + dy * dy, 1, 1));
+            ahead = place;
+        }
+        due(x, NONE, "couple", 1, couples, 0);
     }
 
     private static void ringOfTwelve() {
@@ -223,6 +254,9 @@ public final class HullEdgeTests {
         // from (31/6, 2) two are at 193/36, two at 169/36
         Edge.dueEach(Edge.of("a4,4;a4,0;a3,2;a6,4;"), Edge.answers(2, 3, 169, 36, 193, 36, 31, 6, 2, 1), "ring", 1);
         Edge.dueEach(Edge.of("a-4,4;a-4,0;a-3,2;a-6,4;"), Edge.answers(2, 3, 169, 36, 193, 36, -31, 6, 2, 1), "ring", 1);
+        // one of the COUPLES is the nearest one; five, of which four lie in one line
+        Edge.dueEach(Edge.of("a3,0;a1,2;a2,0;a2,1;"), Edge.answers(2, 1, 1, 2, 5, 2, 3, 2, 1, 2), "ring", 1);
+        Edge.dueEach(Edge.of("a3,3;a2,1;a1,1;a0,0;a2,2;"), Edge.answers(4, 1, 17, 2, 25, 2, -1, 2, 7, 2), "ring", 1);
         // all places from (1/2, 1) to (1, 1) have GAP 1, their ends alone are as far from the SPOTS of two COUPLES
         Edge.dueEach(Edge.of("a0,0;a1,2;a0,2;a0,1;"), Edge.answers(1, 1, 1, 4, 5, 4, 1, 2, 1, 1), "ring", 1);
         Edge.dueEach(Edge.of("a0,0;a-1,2;a0,2;a0,1;"), Edge.answers(1, 1, 1, 1, 2, 1, -1, 1, 1, 1), "ring", 1);
@@ -387,6 +421,11 @@ public final class HullEdgeTests {
         Edge.dueEach(x, Edge.answers(9, 1, 7), "fewer", 1, 3);
         Edge.dueEach(x, Edge.answers(18, 1, 31), "fewer", 1, 4);
         Edge.dueEach(x, Edge.answers(18, 1, 31), "fewer", 1, 5);
+        // the least threes; (9, 9) and (-9, 9) lie far outside
+        for (String text : new String[] {"a0,0;a1,0;a0,1;", "a1,1;a1,0;a0,1;", "a0,0;a1,1;a0,1;", "a0,0;a1,0;a1,1;"}) {
+            Edge.dueEach(Edge.of(text + "a9,9;"), Edge.answers(1, 2, 7), "fewer", 1, 3);
+            Edge.dueEach(Edge.of(text + "a-9,9;"), Edge.answers(1, 2, 14), "fewer", 1, 3);
+        }
         // three on a rim: a sharp one; a blunt one's greater circle is never the smallest
         Edge.dueEach(Edge.of("a0,0;a4,0;a2,3;"), Edge.answers(169, 36, 7), "fewer", 1, 3);
         Edge.dueEach(Edge.of("a0,0;a4,0;a2,1;"), Edge.answers(4, 1, 7), "fewer", 1, 3);

@@ -244,6 +244,12 @@ public final class ShapeEdgeTests {
         Edge.dueEach(x, Edge.answers(2, 3, 1), "sees", 1, -1, -1);
         Edge.dueEach(x, Edge.answers(0, NONE, NONE), "sees", 1, 3, 3);
         Edge.dueEach(x, Edge.answers(0, NONE, NONE), "sees", 1, 6, 6);
+        // far from (0, 0)
+        TightRings far = Edge.of("a50,50;a60,50;a50,60;");
+        Edge.dueEach(far, Edge.answers(1, 0, 1), "sees", 1, 55, 45);
+        Edge.dueEach(far, Edge.answers(1, 1, 2), "sees", 1, 60, 60);
+        Edge.dueEach(far, Edge.answers(1, 2, 0), "sees", 1, 45, 55);
+        Edge.dueEach(far, Edge.answers(0, NONE, NONE), "sees", 1, 52, 52);
         // the least ones, from a step beyond
         Edge.dueEach(Edge.of("a0,0;a1,0;a0,1;"), Edge.answers(1, 1, 2), "sees", 1, 1, 1);
         TightRings least = Edge.of("a0,0;a1,0;a1,1;a0,1;");
